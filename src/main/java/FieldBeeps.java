@@ -398,18 +398,17 @@ public final class FieldBeeps {
                 above++;
             }
         }
-        int common = commonDivisor(above, n);
-        return (part == 0 ? above : n) / common;
+        return part == 0 ? lowered(above, n) : lowered(n, above);
     }
 
-    /** The greatest number that divides both; 1 at least, so that one may divide by it. */
-    private static int commonDivisor(int above, int below) {
-        for (int divisor = below; divisor > 1; divisor--) {
-            if (above % divisor == 0 && below % divisor == 0) {
-                return divisor;
+    /** v, divided by the greatest number that divides the other one, too. */
+    private static int lowered(int v, int other) {
+        for (int divisor = Math.max(v, other); divisor > 1; divisor--) {
+            if (v % divisor == 0 && other % divisor == 0) {
+                return v / divisor;
             }
         }
-        return 1;
+        return v;
     }
 
     public int image() {
@@ -910,7 +909,7 @@ public final class FieldBeeps {
                     }
                 } else if (step == NOT || step == NEGATED) {
                     if (top >= 1) {
-                        stack[top - 1] = step == NEGATED ? -stack[top - 1] : truth(stack[top - 1] == 0);
+                        stack[top - 1] = turned(step, stack[top - 1]);
                     }
                 } else if (top >= 2) {
                     top--;
@@ -918,6 +917,13 @@ public final class FieldBeeps {
                 }
             }
             return stack[0];
+        }
+
+        private static int turned(int step, int a) {
+            if (step == NEGATED) {
+                return -a;
+            }
+            return a == 0 ? 1 : 0;
         }
 
         private static int joined(int step, int a, int b) {
@@ -937,10 +943,6 @@ public final class FieldBeeps {
                 default:
                     return a * b;
             }
-        }
-
-        private static int truth(boolean is) {
-            return is ? 1 : 0;
         }
     }
 
