@@ -35,7 +35,10 @@ public final class MapTest {
 
     private static void pot() {
         c.due("none TAKEN", new FieldBeeps().pot(), NONE);
-        c.due("one", taken(43).pot(), 43);
+        for (int cell = 0; cell < 48; cell++) {
+            c.due("one: pot()", taken(cell).pot(), cell);
+            c.due("one: thick()", taken(cell).thick(), cell);
+        }
         c.due("two: the least of like ones", taken(9, 0).pot(), 0);
         c.due("two: y of one, x of the other", taken(7, 40).pot(), 0);
         c.due("three", taken(0, 7, 43).pot(), 3);
@@ -200,6 +203,15 @@ public final class MapTest {
         x.find(0, 1, 5);
         x.find(0, 2, 6);
         c.due("digs and hears by the same PLATE", x.left(1), 2);
+        x = Checks.ruled("digs plate = 0 or plate = 10;hears 0;worth 1;");
+        x.find(0, 0, 4);
+        c.due("there is no PLATE 0, no PLATE 10", x.left(1), 1);
+        x = Checks.ruled("digs plate = 4;hears 60;worth 1;");
+        x.find(0, 0, 4);
+        c.due("just as loud as hears", x.left(1), 0);
+        x = Checks.ruled("digs plate = 4;hears 61;worth 1;");
+        x.find(0, 0, 4);
+        c.due("less loud", x.left(1), 1);
         x = Checks.ruled("digs plate = 1;hears 30;worth 1;");
         x.find(0, 0, 4);
         x.find(0, 0, 1);
@@ -238,6 +250,25 @@ public final class MapTest {
         c.due("too deep", x.drawn(0), 0);
         c.due("count(1)", x.count(1), 0);
         zOfThoseThatLie();
+        cellsAndDepths();
+    }
+
+    /** z by long arithmetic, and whether just the FIND of that CELL is dug for, if not too deep. */
+    private static void cellsAndDepths() {
+        for (long seed = -2000000000L; seed < 2000000000L; seed += 123456789L) {
+            long first = (seed * 1103515245L + 12345L) & 0xffffffffL;
+            long second = (first * 1103515245L + 12345L) & 0xffffffffL;
+            long[] cells = {(first >> 9) % 48, (second >> 9) % 48};
+            long[] depths = {(first >> 16) % 21, (second >> 16) % 21};
+            for (int f = 0; f < 2; f++) {
+                FieldBeeps x = Checks.ruled("digs tone = " + (18 + f) + " and y * 8 + x = " + cells[f]
+                        + ";hears 0;worth 1;");
+                x.find(0, 0, 8);
+                x.find(0, 0, 9);
+                boolean blocked = f == 0 && cells[0] == cells[1];
+                c.due("FIND " + f + " drawn by " + seed, x.drawn((int) seed), depths[f] <= 10 && !blocked ? 1 : 0);
+            }
+        }
     }
 
     private static void zOfThoseThatLie() {

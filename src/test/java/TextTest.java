@@ -70,7 +70,7 @@ public final class TextTest {
             "digs x^(1);", "digs ^tones;", "digs ^ton;", "digs ^digs;", "digs ^hears;", "digs ^worth 1;",
             "digs 1 ^xor 2;", "digs ^notx;", "digs 1 ^andx 1;", "digs x ^y;", "digs x ^5;", "digs 5^x;", "digs 1 +^;",
             "digs not ^;", "digs - ^;", "digs 1 < ^;", "digs 1 -^", "digs not^", "digs (^", "digs ^yx;", "digs ^e;",
-            "digs tone^1;", "digs ^to ne;",
+            "digs tone^1;", "digs ^to ne;", "digs ^tonez;", "digs ^xa;", "digs ^zx;", "digs x ^z;",
         };
         for (String m : marked) {
             fault(m);
@@ -139,6 +139,12 @@ public final class TextTest {
         c.due("the tape is new then", Checks.read(x, "digs 1;" + REST), 1);
         c.due("and then", Checks.read(x, "digs 2;" + REST), 2);
         c.due("an empty one", x.text(), -100);
+        c.due("a number", Checks.read(x, "digs 12345"), -105);
+        c.due("a shorter one: nothing of the old tape is read", Checks.read(x, "digs 1"), -106);
+        c.due("a word", Checks.read(x, "digs tonexyz"), -105);
+        c.due("a shorter one", Checks.read(x, "digs tone"), -109);
+        c.due("blanks", Checks.read(x, "digs      "), -110);
+        c.due("less blanks", Checks.read(x, "digs  "), -106);
         c.due("count(6)", x.count(6), 3);
         c.due("THE RULE stays", x.count(8), 0);
     }

@@ -259,6 +259,10 @@ public final class WalkTest {
         c.due("THE YEAR stays", x.count(4), 0);
         c.due("DEPTH stays", x.told(0, 2), 20);
         c.due("none is truly TAKEN", x.count(1), 0);
+        x = Checks.ruled("digs x = 6;hears 0;worth 1;");
+        x.find(5, 0, 199);
+        c.due("a HOARD dragged up every other YEAR from 8 on", x.soonest(0), 20);
+        c.due("how many", x.soonest(1), 1);
         x = Checks.ruled("digs y = 0 and x = 7;hears 0;worth 1;");
         x.find(5, 0, 69);
         c.due("never dragged so far", x.soonest(1), 0);
