@@ -1,5 +1,8 @@
 /** Counts answers that are not as due; each test ends by {@link #end()}. */
 final class Checks {
+    /** Of later calls of an object nothing is promised. */
+    static final int MOST_CALLS = 512;
+
     private int made = 0;
     private int wrong = 0;
 
@@ -13,6 +16,20 @@ final class Checks {
 
     void isTrue(String what, boolean holds) {
         due(what, holds ? 1 : 0, 1);
+    }
+
+    /** Runs lines of calls (see Call) on a new object; what names the document's sentence. */
+    void run(String what, String lines) {
+        FieldBeeps x = new FieldBeeps();
+        int calls = 0;
+        for (Call call : Call.all(lines)) {
+            long got = call.on(x);
+            calls += call.calls;
+            if (call.hasDue) {
+                due(what + ": " + call.line, got, call.due);
+            }
+        }
+        isTrue(what + ": " + calls + " calls", calls <= MOST_CALLS);
     }
 
     void end() {
