@@ -238,7 +238,7 @@ public final class MapTest {
         c.due("drawn(1)", x.drawn(1), 0);
         c.due("CELL stays", x.told(0, 1), 5);
         c.due("DEPTH stays", x.told(0, 2), 1);
-        // SEED 0: CELL (12345 >>> 9) % 48 = 24; SEED -1: z -1103502900, CELL 6233341 % 48 = 13, DEPTH 48697 % 21 = 19
+        // SEED 0: CELL (12345 >>> 9) % 48 = 24
         x = Checks.ruled("digs y = 3 and x = 0;hears 0;worth 1;");
         x.find(0, 5, 15);
         c.due("CELL 24", x.drawn(0), 1);
