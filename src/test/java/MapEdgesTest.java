@@ -392,6 +392,18 @@ public final class MapEdgesTest {
                 walk(1) = 1
                 left(0) = 0
                 """);
+        c.run("of these never heard: each one by itself", """
+                read(digs plate = 9 or tone < 12 and plate = 2;hears 0;worth 1;) = 1
+                read(digs plate = 9 and 11 < tone;hears 0;worth 1;) = 2
+                find(0, 0, 12)
+                find(0, 0, 12)
+                find(0, 8, 11)
+                find(0, 47, 13)
+                force(1)
+                left(1) = 0
+                force(2)
+                left(1) = 1
+                """);
         c.run("TAKEN ones aren't of these", """
                 read(digs 1;hears 0;worth 1;) = 1
                 read(digs 0;hears 0;worth 1;) = 2
@@ -715,6 +727,27 @@ public final class MapEdgesTest {
                 judge(0, 0) = 1
                 judge(0, 1) = 1
                 force(2) = 1
+                """);
+        c.run("and nothing else: what was ahead of it stays, too", ALL + """
+                feeds(digs)
+                sheet(0, 2, 3)
+                cell(0, 1, 5)
+                find(1, 12, 34)
+                walk(1) = 1
+                plough() = 1
+                image() = 0
+                count(0) = 1
+                count(1) = 1
+                count(4) = 1
+                count(5) = 2
+                count(6) = 2
+                count(7) = 4
+                count(8) = 1
+                judge(0, 0) = 1
+                feeds( 1;hears 0;worth 8;) = 23
+                back() = 0
+                count(7) = 23
+                text() = 2
                 """);
         c.run("where FINDS lie: not how large they are", """
                 find(1, 12, 34)

@@ -283,6 +283,10 @@ public final class TextEdgesTest {
                 read(digs tonee;hears 0;worth 1;) = -105
                 read(digs loudx;hears 0;worth 1;) = -105
                 read(digs xx;hears 0;worth 1;) = -105
+                read(digs xz;hears 0;worth 1;) = -105
+                read(digs xa;hears 0;worth 1;) = -105
+                read(digs zx;hears 0;worth 1;) = -105
+                read(digs ax;hears 0;worth 1;) = -105
                 read(digs platewet;hears 0;worth 1;) = -105
                 read(dig 1;hears 0;worth 1;) = -100
                 read(digss 1;hears 0;worth 1;) = -100
