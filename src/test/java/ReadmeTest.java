@@ -56,5 +56,7 @@ public final class ReadmeTest {
         c.isTrue("BAD is told", text.contains("| `BAD` " + FieldBeeps.BAD + " |"));
         c.isTrue("STATE is told", text.contains("| `STATE` " + FieldBeeps.STATE + " |"));
         c.isTrue("FULL is told", text.contains("| `FULL` " + FieldBeeps.FULL + " |"));
+        c.isTrue("what a FAULT does to the tape is told", text.contains("`text` empties the tape by\na fault"));
+        c.isTrue("what -12 leaves is told", text.contains("`finds` that answers -12 has laid what stood ahead"));
     }
 }
